@@ -1088,6 +1088,7 @@ public final class GiantHeart {
 
         private final World world;
         private final int[] placesOn = new int[ISLANDS];
+        private final int[] waysFrom = new int[ISLANDS];
         private final int[] around = new int[PLACES];
         private final int[] where = new int[KEYS];
         private final int[] mouths = new int[BEASTS];
@@ -1096,6 +1097,10 @@ public final class GiantHeart {
         int opened;
         private int beasts;
         int keys;
+        private int byRaven;
+        private int byKey;
+        private int byWolf;
+        private int bySalmon;
         private final int[] can = new int[LETTERS];
 
         Seeker(World world) {
@@ -1111,6 +1116,10 @@ public final class GiantHeart {
                 placesOn[isle] = 0;
                 for (int p = 0; p < PLACES; p++) {
                     placesOn[isle] |= world.isTold(p) && world.islandOf(p) == isle ? 1 << p : 0;
+                }
+                waysFrom[isle] = 0;
+                for (int to = 0; to < ISLANDS; to++) {
+                    waysFrom[isle] |= daysTo(isle, to) > 0 ? 1 << to : 0;
                 }
             }
             for (int p = 0; p < PLACES; p++) {
@@ -1169,21 +1178,33 @@ public final class GiantHeart {
         }
 
         void stand(int state) {
-            int layer = Math.max(state, 0) / ISLANDS;
-            island = Math.max(state, 0) % ISLANDS;
+            enter(Math.max(state, 0) / ISLANDS);
+            arrive(Math.max(state, 0) % ISLANDS);
+        }
+
+        /** What is alike on all ISLANDS. */
+        void enter(int layer) {
             beasts = layer % BEAST_CODES;
             opened = layer / BEAST_CODES;
-            can[GO] = 0;
-            for (int isle = 0; isle < ISLANDS; isle++) {
-                can[GO] |= daysTo(island, isle) > 0 ? 1 << isle : 0;
-            }
-            can[RAVEN] = done(0) == 0 ? (1 << ISLANDS) - 1 & ~(1 << island) : 0;
+            gatherKeys();
+            findOpenable();
+            byRaven = done(0) == 0 ? (1 << ISLANDS) - 1 : 0;
             can[GIVE] = 0;
             for (int b = 0; b < BEASTS; b++) {
                 can[GIVE] |= done(b) == 0 && mouths[b] != 0 ? 1 << b : 0;
             }
-            gatherKeys();
-            findOpenable();
+        }
+
+        void arrive(int isle) {
+            if (isle < 0 || isle >= ISLANDS) {
+                return;
+            }
+            island = isle;
+            can[GO] = waysFrom[isle];
+            can[RAVEN] = byRaven & ~(1 << isle);
+            can[OPEN] = byKey & placesOn[isle];
+            can[WOLF] = byWolf & placesOn[isle];
+            can[SALMON] = bySalmon & placesOn[isle];
         }
 
         private void gatherKeys() {
@@ -1204,10 +1225,9 @@ public final class GiantHeart {
                 free |= (around[p] & ~opened) == 0 ? 1 << p : 0;
                 unlocked |= lock == NONE || (keys >> lock & 1) == 1 ? 1 << p : 0;
             }
-            int near = isBelow(island, ISLANDS) ? placesOn[island] & ~opened : 0;
-            can[OPEN] = near & free & unlocked;
-            can[WOLF] = done(1) == 0 ? near & free & ~world.wet : 0;
-            can[SALMON] = done(2) == 0 ? near & world.wet : 0;
+            byKey = ~opened & free & unlocked;
+            byWolf = done(1) == 0 ? ~opened & free & ~world.wet : 0;
+            bySalmon = done(2) == 0 ? ~opened & world.wet : 0;
         }
 
         private int done(int beast) {
@@ -1325,14 +1345,13 @@ public final class GiantHeart {
         /** More than the ACTS or PLACES of any way, so that DAYS always count first. */
         private static final int DAY = 1024;
         private static final int NEVER = 1 << 27;
-        private static final int GOOD = 1 << 28;
         private static final int MOST_ACTS = 64;
 
         private final Seeker seeker;
         private final int[] far = new int[STATES];
         private final int[] paths = new int[ISLANDS * ISLANDS];
         private final int[] entry = new int[ISLANDS];
-        private final int[] acts = new int[MOST_ACTS];
+        private final int[] written = new int[MOST_ACTS];
         private boolean byActs;
         private int useful;
         private final int[] helpful = new int[Seeker.LETTERS];
@@ -1357,7 +1376,7 @@ public final class GiantHeart {
         }
 
         int actAt(int i) {
-            return isBelow(i, MOST_ACTS) ? acts[i] : NONE;
+            return isBelow(i, MOST_ACTS) ? written[i] : NONE;
         }
 
         /** By fewest DAYS, then by fewest ACTS or else by fewest OPENED: whether IT IS HAD at all. */
@@ -1366,15 +1385,15 @@ public final class GiantHeart {
             best = NEVER;
             findUseful();
             findPaths();
-            for (int layer = 0; layer < LAYERS; layer++) {
-                if (isUseful(layer)) {
-                    clear(layer);
+            for (int opened = 0; opened <= useful; opened++) {
+                if ((opened & ~useful) == 0) {
+                    clear(opened);
                 }
             }
             far[0] = 0;
-            for (int layer = 0; layer < LAYERS; layer++) {
-                if (isUseful(layer)) {
-                    advance(layer);
+            for (int opened = 0; opened <= useful; opened++) {
+                if ((opened & ~useful) == 0) {
+                    advance(opened);
                 }
             }
             return best < NEVER;
@@ -1404,13 +1423,10 @@ public final class GiantHeart {
             }
         }
 
-        private boolean isUseful(int layer) {
-            return (layer / Seeker.BEAST_CODES & ~useful) == 0;
-        }
-
-        private void clear(int layer) {
-            for (int island = 0; island < ISLANDS; island++) {
-                far[ISLANDS * layer + island] = NEVER;
+        private void clear(int opened) {
+            int first = opened * Seeker.BEAST_CODES * ISLANDS;
+            for (int i = 0; i < Seeker.BEAST_CODES * ISLANDS && first + i < STATES; i++) {
+                far[first + i] = NEVER;
             }
         }
 
@@ -1438,20 +1454,20 @@ public final class GiantHeart {
             }
         }
 
-        private void advance(int layer) {
-            if (!settle(layer)) {
-                return;
-            }
-            boolean isHad = seeker.isHad(layer / Seeker.BEAST_CODES);
-            for (int island = 0; island < ISLANDS; island++) {
-                int state = ISLANDS * layer + island;
-                if (far[state] >= best) {
+        private void advance(int opened) {
+            boolean isHad = seeker.isHad(opened);
+            for (int beasts = 0; beasts < Seeker.BEAST_CODES; beasts++) {
+                int layer = opened * Seeker.BEAST_CODES + beasts;
+                if (layer >= LAYERS || !settle(layer)) {
                     continue;
                 }
-                if (isHad) {
-                    best = far[state];
-                } else {
-                    leave(state);
+                seeker.enter(layer);
+                for (int state = ISLANDS * layer; state < ISLANDS * (layer + 1); state++) {
+                    if (far[state] < best && isHad) {
+                        best = far[state];
+                    } else if (far[state] < best) {
+                        leave(state);
+                    }
                 }
             }
         }
@@ -1475,14 +1491,14 @@ public final class GiantHeart {
 
         private void leave(int state) {
             int cost = far[state];
-            seeker.stand(state);
+            seeker.arrive(state % ISLANDS);
             for (int letter = Seeker.RAVEN; letter < Seeker.LETTERS; letter++) {
                 int digits = helpfulBits(letter);
-                for (int digit = 0; digit <= Seeker.highest(letter); digit++) {
+                int there = cost + price(letter, letter == Seeker.GIVE ? 0 : 1);
+                for (int digit = 0; digit < PLACES && digits >> digit != 0; digit++) {
                     int next = (digits >> digit & 1) == 1 ? seeker.after(letter, digit) : NONE;
-                    if (next >= 0 && next < STATES) {
-                        int there = cost + price(letter, seeker.daysOf(letter, digit));
-                        far[next] = Math.min(far[next], there);
+                    if (next >= 0 && next < STATES && far[next] > there) {
+                        far[next] = there;
                     }
                 }
             }
@@ -1494,63 +1510,49 @@ public final class GiantHeart {
 
         /** Writes THE PLAN behind a search by ACTS: how many it has. */
         int write() {
-            for (int layer = LAYERS - 1; layer >= 0; layer--) {
-                if (isUseful(layer)) {
-                    markGood(layer);
-                }
+            for (int acts = 0; acts < MOST_ACTS; acts++) {
+                written[acts] = NONE;
             }
-            int state = 0;
-            for (int i = 0; i < MOST_ACTS; i++) {
-                int act = leastGood(state);
-                if (act == NONE) {
-                    return i;
+            follow(0, 0);
+            for (int acts = 0; acts < MOST_ACTS; acts++) {
+                if (written[acts] == NONE) {
+                    return acts;
                 }
-                acts[i] = act;
-                state = seeker.after(act / 10, act % 10);
             }
             return MOST_ACTS;
         }
 
-        /** Marks the states from which a best way goes on to its end. */
-        private void markGood(int layer) {
-            boolean isHad = seeker.isHad(layer / Seeker.BEAST_CODES);
-            for (int island = 0; island < ISLANDS; island++) {
-                int state = ISLANDS * layer + island;
-                if (isHad ? far[state] == best : far[state] < best && goodFrom(state, Seeker.RAVEN) != NONE) {
-                    far[state] += GOOD;
-                }
+        /**
+         * Follows the best ways in the order of their rows; whether one of them leads from here to its end.
+         * A state from which none does is closed behind, so that each is looked at once.
+         */
+        private boolean follow(int state, int depth) {
+            if (state < 0 || state >= STATES || depth >= MOST_ACTS) {
+                return false;
             }
-            for (int i = 0; i < ISLANDS * ISLANDS && !isHad; i++) {
-                int state = ISLANDS * layer + i % ISLANDS;
-                if (far[state] < best && goodFrom(state, Seeker.GO) != NONE) {
-                    far[state] += GOOD;
-                }
-            }
-        }
-
-        private int leastGood(int state) {
-            if (!isBelow(state, STATES)) {
-                return NONE;
-            }
+            int cost = far[state];
             seeker.stand(state);
-            return seeker.isHad(seeker.opened) ? NONE : goodFrom(state, Seeker.GO);
-        }
-
-        /** The least ACT, from that letter on, that leads on a best way into a good state. */
-        private int goodFrom(int state, int first) {
-            int cost = far[state] % GOOD;
-            seeker.stand(state);
-            for (int letter = first; letter < Seeker.LETTERS; letter++) {
+            if (seeker.isHad(seeker.opened)) {
+                return cost == best;
+            }
+            for (int letter = Seeker.GO; letter < Seeker.LETTERS; letter++) {
                 int digits = helpfulBits(letter);
-                for (int digit = 0; digit <= Seeker.highest(letter); digit++) {
+                for (int digit = 0; digit < PLACES && digits >> digit != 0; digit++) {
                     int next = (digits >> digit & 1) == 1 ? seeker.after(letter, digit) : NONE;
                     int there = cost + price(letter, seeker.daysOf(letter, digit));
-                    if (next >= 0 && next < STATES && far[next] == GOOD + there) {
-                        return 10 * letter + digit;
+                    if (next < 0 || next >= STATES || there > best || far[next] != there) {
+                        continue;
                     }
+                    written[depth] = 10 * letter + digit;
+                    if (follow(next, depth + 1)) {
+                        return true;
+                    }
+                    seeker.stand(state);
                 }
             }
-            return NONE;
+            far[state] = NEVER;
+            written[depth] = NONE;
+            return false;
         }
 
         /** HIDDEN: the DAYS of the row by which IT IS HAD latest; NONE: by none. */
