@@ -28,17 +28,21 @@ public final class GiantHeart {
     private final Wood wood;
 
     public GiantHeart() {
-        world = new World();
+        World ownWorld = new World();
+        Law ownLaw = new Law();
+        Seeker ownSeeker = new Seeker(ownWorld);
+        Nights ownNights = new Nights(ownWorld, ownLaw);
+        world = ownWorld;
         kept = new World();
         isKept = false;
         tape = new Tape();
-        law = new Law();
+        law = ownLaw;
         draft = new Law();
-        seeker = new Seeker(world);
+        seeker = ownSeeker;
         tales = new Tale();
-        planner = new Planner(seeker);
-        nights = new Nights(world, law);
-        stories = new Stories(world, law, nights);
+        planner = new Planner(ownSeeker);
+        nights = ownNights;
+        stories = new Stories(ownWorld, ownLaw, ownNights);
         shares = new Lots();
         eggs = new Eggs();
         wood = new Wood();

@@ -381,6 +381,51 @@ final class AgainstModelTest {
         return s.toString();
     }
 
+    private int wild() {
+        int[] all = {Integer.MIN_VALUE, Integer.MIN_VALUE + 1, -65536, -256, -11, -10, -9, -8, -3, -2, -1, 0, 1, 2, 3, 4, 5,
+            6, 7, 8, 9, 10, 11, 12, 16, 17, 20, 21, 31, 63, 64, 100, 115, 240, 255, 256, 65535, 65536,
+            Integer.MAX_VALUE - 10, Integer.MAX_VALUE};
+        return chance(10) ? random.nextInt() : all[pick(0, all.length - 1)];
+    }
+
+    /** Each call with any arguments. */
+    private void callWildly() {
+        int a = wild();
+        int b = wild();
+        int c = wild();
+        int d = wild();
+        boolean is = chance(50);
+        due("way", one(x.way(a, b, c)), m.way(a, b, c));
+        due("place", one(x.place(a, b, c, d)), m.place(a, b, c, d));
+        due("more", one(x.more(a, is, b)), m.more(a, is, b));
+        due("key", one(x.key(a, b)), m.key(a, b));
+        due("heart", one(x.heart(a)), m.heart(a));
+        due("feed", x.feed(a, b, c, d, a), m.feed(a, b, c, d, a));
+        due("law", x.law(a), m.law(a));
+        due("feed", x.feed(a, b, c, d, a), m.feed(a, b, c, d, a));
+        due("tale", x.tale(a, b), m.tale(a, b));
+        due("soonest", x.soonest(a), m.soonest(a));
+        due("plan", x.plan(a), m.plan(a));
+        due("missed", x.missed(a), m.missed(a));
+        due("hidden", x.hidden(a, b), m.hidden(a, b));
+        due("night", x.night(a), m.night(a));
+        due("tried", x.tried(a, b), m.tried(a, b));
+        due("feed", x.feed(a, b, c, d, a), m.feed(a, b, c, d, a));
+        due("story", x.story(a, b, c), m.story(a, b, c));
+        due("toDust", x.toDust(b, c, a), m.toDust(b, c, a));
+        due("lots", x.lots(c, b), m.lots(c, b));
+        due("egg", one(x.egg(a, is)), m.egg(a, is));
+        due("test", one(x.test(a, b)), m.test(a, b));
+        due("apart", x.apart(a), m.apart(a));
+        due("alike", x.alike(a, b), m.alike(a, b));
+        due("owes", one(x.owes(a, b)), m.owes(a, b));
+        due("rings", x.rings(a, b), m.rings(a, b));
+        due("placeIs", x.placeIs(a, b), m.placeIs(a, b));
+        due("seed", one(x.seed(a)), m.seed(a));
+        due("count", x.count(a), m.count(a));
+        due("check", x.check(a), m.check(a));
+    }
+
     private void compareAll() {
         for (int what = -1; what <= 20; what++) {
             due("count " + what, x.count(what), m.count(what));
@@ -414,6 +459,9 @@ final class AgainstModelTest {
             } else {
                 askOthers();
             }
+        }
+        for (int i = 0; i < 10; i++) {
+            callWildly();
         }
         compareAll();
     }

@@ -65,6 +65,8 @@ final class LawTest {
             Check.due("clauses of " + one[0], x.count(2), Math.max(due, 0));
         }
         GiantHeart x = new GiantHeart();
+        Check.due("240 bytes", Check.law(x, "m1" + repeated("+1", 115) + "(1=1)" + ";l2"), -1240);
+        Check.due("240 bytes that are a law", Check.law(x, "m1" + repeated("+1", 116) + "0(1=1)"), 1);
         x.feed(0x6DE92831, 0x3D310000, 0, 0, 0);
         Check.due("a byte above 127", x.law(7), -1001);
     }
@@ -116,6 +118,7 @@ final class LawTest {
         says("l1%0(1=1)", 0);
         says("l3+[1/0](1=1)", 0);
         says("l3+0*[1%[2-2]](1=1)", 0);
+        says("l5" + repeated("*1", 55) + repeated("+0", 60) + "+2(1=1)", 7);
         holds("32768*65536<0", true);
         holds("99999*99999>0", true);
         holds("99999*99999*2<0", true);
@@ -172,6 +175,9 @@ final class LawTest {
         holds("(1=1|1/0=0)&(1=2|(1=1|1/0=0))", true);
         holds("0*[1/0]=0", false);
         holds("1=1/0|1=1", false);
+        holds("1=2" + repeated("|1=2", 50) + "|1=1", true);
+        holds("1=1" + repeated("&1=1", 50) + "&1=2", false);
+        holds("0<1&!(!(1<0|2>1)|n=1)", true);
     }
 
     private static void clauses() {

@@ -10,7 +10,7 @@ final class SeekerTest {
             {"G0", -1000}, {"gg", -1001}, {"g00", -1002}, {"g4", -3001}, {"g9", -3001}, {"r4", -3001}, {"r3", 1},
             {"o8", -3001}, {"o7", 0}, {"w8", -3001}, {"w7", 0}, {"s9", -3001}, {"s7", 0}, {"k3", -3001}, {"k2", 0},
             {"g0,o9,x", -3004}, {thirtyTwo, 0}, {thirtyTwo + ",", -1096}, {thirtyTwo + ",k", -4096},
-            {thirtyTwo + ",r9", -4096}, {thirtyTwo + ",x0", -1096},
+            {thirtyTwo + ",r9", -4096}, {thirtyTwo + ",x0", -1096}, {thirtyTwo + ",g0,g", -4096},
         };
         for (Object[] one : all) {
             Check.due("tale " + one[0], Check.tale(new GiantHeart(), (String) one[0], 0), (Integer) one[1]);
@@ -258,6 +258,18 @@ final class SeekerTest {
         Check.due("2", y.count(12), 1);
         Check.due("3", y.count(13), 10);
         Check.due("later now", y.soonest(0), 6);
+        // of two: 0 is in 2, 1 in 0, 2 in 1: with 0 and 1 changed 2 is in 1 behind 0 in 0; with 1 and 2, 2 is in 0
+        Check.due("two as they are", y.hidden(3, 10), 6);
+        Check.due("two as they are", y.hidden(3, 0), 0);
+        Check.due("two as they are", y.hidden(6, 2), 2);
+        Check.due("no such key of these", y.hidden(6, 0), -1);
+        // of four, the salmon free to open one: 1 in 0, 0 in 2, 3 in 1, and 2 in 3, which the salmon opens
+        y.key(3, 3);
+        Check.due("four", y.hidden(15, 10), 6);
+        Check.due("four: 0", y.hidden(15, 0), 0);
+        Check.due("four: 1", y.hidden(15, 1), 1);
+        Check.due("four: 2", y.hidden(15, 2), 3);
+        Check.due("four: 3", y.hidden(15, 3), 2);
         y.key(3, -1);
         Check.due("never by any", y.hidden(7, 10), -2);
         Check.due("never by any", y.hidden(7, 0), -2);

@@ -59,6 +59,14 @@ final class WorldTest {
         for (int[] no : new int[][] {{0, 0}, {-1, 0}, {8, 0}, {2, -1}, {2, 7}}) {
             Check.due("placeIs none", x.placeIs(no[0], no[1]), -1);
         }
+        GiantHeart y = new GiantHeart();
+        for (int p = 0; p < 8; p++) {
+            y.place(p, 3, p - 1, -1);
+        }
+        for (int p = 0; p < 8; p++) {
+            Check.due("on the island of the outermost", y.placeIs(p, 0), 3);
+            Check.due("levels", y.placeIs(p, 6), p);
+        }
         Check.due("the outer one elsewhere", x.place(2, 1, -1, -1), true);
         Check.due("the inner one goes along", x.placeIs(7, 0), 1);
     }
@@ -131,6 +139,19 @@ final class WorldTest {
         Check.due("place 3 is not told", x.check(5), 3);
         x.feed(0, 1, 2, 0, 0x01000000);
         Check.due("the highest byte counts", x.check(5), 4);
+        for (int bit = 0; bit < 32; bit++) {
+            x.feed(1 << bit, 1, 2, 0, 0);
+            Check.due("the first number's bit " + bit, x.check(5), 0);
+            x.feed(0, 1, 2, 0, 1 << bit);
+            Check.due("the last number's bit " + bit, x.check(5), 4);
+        }
+        x.place(7, 3, -1, -1);
+        x.feed(0, 1, 2, 0, 0);
+        x.feed(0, 0, 3, 0, 0);
+        Check.due("check(8)", x.check(8), -1);
+        x.feed(0, 1, 2, 0, 0);
+        x.feed(0, 0, 2, 0, 0);
+        Check.due("check(8)", x.check(8), 7);
         x.feed(0, 1, 2, 0, 0);
         Check.due("check(6) of five", x.check(6), -2);
         Check.due("stays", x.count(3), 20);
