@@ -6,6 +6,7 @@ final class AgainstModelTest {
     private final GiantHeart x = new GiantHeart();
     private final Model m = new Model();
     private final int run;
+    private int asked;
 
     private AgainstModelTest(int run) {
         this.run = run;
@@ -25,6 +26,7 @@ final class AgainstModelTest {
     }
 
     private void due(String call, long got, long want) {
+        asked++;
         Check.due("run " + run + ": " + call, got, want);
     }
 
@@ -440,7 +442,8 @@ final class AgainstModelTest {
         }
     }
 
-    private void play(int calls) {
+    /** No more than 512 calls in all: what later ones answer is free. */
+    private void play() {
         boolean isScene = chance(60);
         if (isScene) {
             tellScene();
@@ -448,9 +451,9 @@ final class AgainstModelTest {
         if (chance(50)) {
             tellOthers();
         }
-        for (int call = 0; call < calls; call++) {
+        while (asked < 270) {
             int kind = pick(0, 99);
-            if (kind < (isScene ? 10 : call < 60 ? 70 : 25)) {
+            if (kind < (isScene ? 10 : asked < 100 ? 70 : 25)) {
                 tellWorld();
             } else if (kind < 60) {
                 askSeeker();
@@ -460,16 +463,17 @@ final class AgainstModelTest {
                 askOthers();
             }
         }
-        for (int i = 0; i < 10; i++) {
+        for (int i = 0; i < 3; i++) {
             callWildly();
         }
         compareAll();
+        Check.due("run " + run + ": not above 512 calls", asked <= 512, true);
     }
 
     public static void main(String[] args) {
-        int runs = args.length > 0 ? Integer.parseInt(args[0]) : 400;
+        int runs = args.length > 0 ? Integer.parseInt(args[0]) : 700;
         for (int run = 0; run < runs; run++) {
-            new AgainstModelTest(run).play(200);
+            new AgainstModelTest(run).play();
         }
         Check.end("AgainstModelTest");
     }
