@@ -562,7 +562,6 @@ public final class GiantHeart {
             System.arraycopy(other.starts, 0, starts, 0, CLAUSES);
             System.arraycopy(other.conditions, 0, conditions, 0, CLAUSES);
             System.arraycopy(other.ends, 0, ends, 0, CLAUSES);
-            steps = other.steps;
             clauses = other.clauses;
             asksDraw = other.asksDraw;
         }

@@ -85,6 +85,50 @@ final class EdgesOfGiantTest {
         holds("2>3", false);
     }
 
+    /** PARTS with a | between two, one of which must hold; PIECES with an & between two, all of which must; !PIECE. */
+    private static void conditions() {
+        holds("!1=1", false);
+        holds("!1=2", true);
+        holds("!!1=1", true);
+        holds("!!1=2", false);
+        holds("!(1=1)", false);
+        holds("!(1=2)", true);
+        holds("1=1&!1=1", false);
+        holds("!1=1|1=1", true);
+        holds("!1=2&1=2", false);
+        holds("!1<2", false);
+        holds("!2>1", false);
+        holds("!!2>1", true);
+        // one to four of each, each holding or not
+        for (int deep = 1; deep <= 4; deep++) {
+            for (int bits = 0; bits < 1 << deep; bits++) {
+                StringBuilder all = new StringBuilder();
+                for (int i = 0; i < deep; i++) {
+                    all.append(i == 0 ? "" : "&").append((bits >> i & 1) == 1 ? i % 2 == 0 ? "1<2" : "2>1" : "1>2");
+                }
+                String any = all.toString().replace('&', '|');
+                boolean areAll = bits == (1 << deep) - 1;
+                boolean isAny = bits != 0;
+                holds(all.toString(), areAll);
+                holds(any, isAny);
+                holds("!(" + all + ")", !areAll);
+                holds("!(" + any + ")", !isAny);
+                holds("(" + any + ")&1=2", false);
+                holds("(" + any + ")&1=1", isAny);
+                holds("1=1&(" + any + ")", isAny);
+                holds(all + "|1=1", true);
+                holds(all + "|1=2", areAll);
+                holds("1=2|" + all, areAll);
+                holds(all + "|" + all, areAll);
+                // & binds before |
+                holds(any + "&1=2", (bits & (1 << deep - 1) - 1) != 0);
+                holds("1=2&" + any, (bits & ~1) != 0);
+            }
+        }
+        holds("(((((1=1)))))", true);
+        holds("!!(!(1=1))", false);
+    }
+
     /** What is divided by 0 is REFUSED: then the C as a whole does not hold (through any !, ( ) and |), an E is 0. */
     private static void dividedByNothing() {
         for (String refused : new String[] {"1/0=0", "1%0=0", "0/0=0", "0%0=0", "0=1/0", "1/[h-5]=0", "1%[s-8]<9", "[1/0]*0=0",
@@ -406,7 +450,10 @@ final class EdgesOfGiantTest {
         dust(told(15, "m3(d=7);l0(1=1)"), ".0", 7, 7, 1, 1);
         dust(told(15, "m3(d=7&r<5);l0(1=1)"), ".0", 7, 7, 1, 2);
         Check.due("it can't be so", Check.toDust(told(15, "l0(1=1)"), ".1", 15, 0), -2);
+        // behind twelve NIGHTS: THE NIGHT is 12, and what he SAID last is the story's
         dust(told(15, "l0(n<12);lh(n=12&d=5);l0(1=1)"), nights(".0", 12), 15, 5, 1, 1);
+        dust(told(15, "l0(n<12);lh(s=0&d=5);l0(1=1)"), nights(".0", 12), 15, 5, 1, 1);
+        dust(told(15, "l0(n<11);l1(n=11);lh(s=1&d=5);l0(1=1)"), nights(".0", 11) + ",.1", 15, 5, 1, 1);
     }
 
     /** 14 to 17: THE NIGHT is 9999; would be above 9999; is above 9987. The document leaves free what is behind 512 calls,
@@ -448,6 +495,7 @@ final class EdgesOfGiantTest {
     public static void main(String[] args) {
         thirtyTwoBits();
         fromTheLeft();
+        conditions();
         dividedByNothing();
         placesOfTheLaw();
         letters();

@@ -383,6 +383,69 @@ final class EdgesOfSeekerTest {
         planIs(z, 3, 2, 20, 31, 42, 50, 23);
     }
 
+    /** Back to ISLAND 0, by a WAY and by the raven; the 3, the last one, too. */
+    private static void plansBack() {
+        for (int far = 1; far < 4; far++) {
+            GiantHeart x = new GiantHeart();
+            x.way(0, far, 1);
+            x.place(0, far, -1, -1);
+            x.place(1, 0, -1, 7);
+            x.place(2, 0, -1, 7);
+            x.place(3, 0, -1, 7);
+            x.more(3, true, -1);
+            x.more(2, false, 3);
+            x.more(1, false, 2);
+            x.heart(1);
+            x.key(7, 0);
+            Check.due("there and back", x.soonest(0), 6);
+            planIs(x, far, 20, 0, 21, 22, 23);
+            Check.due("never without", x.missed(7), -2);
+            x.way(0, far, 5);
+            // one of the two ways by the raven: g is ahead of r
+            Check.due("there and back", x.soonest(0), 10);
+            planIs(x, far, 20, 10, 21, 22, 23);
+            x.way(0, far, 0);
+            Check.due("there, but not back", x.soonest(0), -2);
+            x.way(1, 2, 1);
+            x.way(2, 3, 1);
+            x.way(3, 0, 2);
+            // the raven there, o0, then back by 3, the last two DAYS from there, and three are opened
+            Check.due("round", x.soonest(0), 1 + 1 + 5 - far + 3);
+        }
+    }
+
+    /** All WAYS lead over ISLAND 0: to 1 for a KEY, to 3 for another, to 2 with both; one of these by the raven. */
+    private static void overTheFirst() {
+        GiantHeart x = new GiantHeart();
+        for (int island = 1; island < 4; island++) {
+            x.way(0, island, 1);
+        }
+        x.place(0, 1, -1, -1);
+        x.place(1, 3, -1, -1);
+        for (int p = 2; p < 6; p++) {
+            x.place(p, 2, -1, p < 4 ? 6 : 7);
+        }
+        for (int p = 2; p < 5; p++) {
+            x.more(p, false, p + 1);
+        }
+        x.heart(2);
+        x.key(6, 0);
+        x.key(7, 1);
+        // the wolf opens but one of four
+        Check.due("DAYS", x.soonest(0), 10);
+        Check.due("OPENED", x.soonest(1), 6);
+        planIs(x, 1, 20, 0, 3, 21, 12, 22, 23, 24, 25);
+        // the raven gives a KEY: once more over 0
+        x.key(5, 8);
+        x.place(6, 2, -1, 5);
+        x.place(7, 2, -1, 5);
+        x.more(5, false, 6);
+        x.more(6, false, 7);
+        Check.due("DAYS", x.soonest(0), 13);
+        Check.due("OPENED", x.soonest(1), 8);
+        planIs(x, 1, 20, 0, 3, 21, 0, 2, 22, 23, 24, 25, 36, 50, 27);
+    }
+
     /** SOONEST: of ways with the fewest DAYS also the fewest PLACES that are OPENED. */
     private static void soonest() {
         // in 3 DAYS by way of the KEY (two OPENED) or over two ISLANDS (one OPENED)
@@ -538,6 +601,8 @@ final class EdgesOfSeekerTest {
         giving();
         had();
         plans();
+        plansBack();
+        overTheFirst();
         soonest();
         missed();
         hidden();

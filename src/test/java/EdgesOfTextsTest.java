@@ -49,16 +49,16 @@ final class EdgesOfTextsTest {
 
     /** Each text that ends too soon: 1 at the end, though what would go on with it stands behind. */
     private static void ends(int kind, String text, int... whole) {
-        for (int n = 1; n <= text.length(); n++) {
+        GiantHeart used = oneOf(kind);
+        for (int n = text.length(); n >= 1; n--) {
             int clauses = 0;
             for (int i = 0; i < whole.length; i++) {
                 clauses = whole[i] == n ? i + 1 : clauses;
             }
-            if (clauses == 0) {
-                due(kind, text, n, -1000 - n);
-            } else {
-                due(kind, text, n, kind == LAW ? clauses : kind == TALE ? 0 : 1);
-            }
+            int due = clauses == 0 ? -1000 - n : kind == LAW ? clauses : kind == TALE ? 0 : 1;
+            due(kind, text, n, due);
+            // also where a longer one was read before
+            Check.due("the first " + n + " of " + text + " again", read(used, kind, text, n), due);
         }
     }
 
@@ -125,6 +125,19 @@ final class EdgesOfTextsTest {
         Check.due("one", x.count(2), 1);
         Check.due("sixteen again", read(x, LAW, most, 223), 16);
         Check.due("sixteen", x.count(2), 16);
+        // nothing of a longer one before is left
+        x.place(0, 0, -1, -1);
+        x.place(3, 0, -1, -1);
+        Check.due("three", Check.law(x, "m3(1=2);l0(1=2);l3(1=1);m3(1=1)"), 4);
+        Check.due("one", Check.law(x, "m3(1=2)"), 1);
+        Check.due("says where it is", x.night(8), 0);
+        Check.due("he does not move it", x.count(1), 0);
+        // each in place of the one before, however many there were
+        for (int i = 0; i < 30; i++) {
+            String law = i % 2 == 0 ? "l1+1+1(n<99)" : "l1+1(n>99);l0*1(1=1&2=2)";
+            Check.due("law " + i, Check.law(x, law), 1 + i % 2);
+            Check.due("night " + i, x.night(8), i % 2 == 0 ? 3 : 0);
+        }
     }
 
     /** 1 what can't stand there (the end, too). */

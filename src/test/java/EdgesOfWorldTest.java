@@ -1,4 +1,3 @@
-import java.util.ArrayList;
 import java.util.List;
 
 /**
@@ -269,27 +268,8 @@ final class EdgesOfWorldTest {
         Check.due("X stays", x.count(4), due);
     }
 
-    private static List<Long> shown(GiantHeart x) {
-        List<Long> all = new ArrayList<>();
-        for (int what : new int[] {0, 1, 4, 5, 6, 7}) {
-            all.add((long) x.count(what));
-        }
-        for (int k = 0; k < 8; k++) {
-            all.add((long) x.count(10 + k));
-        }
-        for (int way = 0; way < 16; way++) {
-            all.add((long) x.count(100 + way));
-        }
-        for (int p = 0; p < 8; p++) {
-            for (int what = 0; what < 7; what++) {
-                all.add((long) x.placeIs(p, what));
-            }
-        }
-        return all;
-    }
-
     private static void isShown(String name, GiantHeart x, List<Long> due) {
-        List<Long> shown = shown(x);
+        List<Long> shown = Scene.world(x);
         for (int i = 0; i < due.size(); i++) {
             Check.due(name + " " + i, shown.get(i), due.get(i));
         }
@@ -301,8 +281,10 @@ final class EdgesOfWorldTest {
         x.way(2, 3, 1);
         x.place(0, 3, -1, 6);
         x.place(1, 1, -1, 1);
-        x.place(2, 2, 1, -1);
+        x.place(2, 2, -1, -1);
         x.place(3, 2, -1, -1);
+        x.place(4, 2, 0, -1);
+        x.place(5, 0, 2, -1);
         x.place(7, 2, 3, 0);
         x.more(0, false, 7);
         x.more(7, true, -1);
@@ -318,7 +300,7 @@ final class EdgesOfWorldTest {
     /** 27, 28: ISLANDS, PLACES, KEYS, THE HEART, THE NIGHT, DUSTED, SAID, X; UNDONE: as they were KEPT last. */
     private static void keptAndUndone() {
         GiantHeart x = Scene.withoutKept();
-        List<Long> first = shown(x);
+        List<Long> first = Scene.world(x);
         Check.due("nothing was KEPT", x.undo(), false);
         Check.due("how many PLACES are told", x.keep(), 6);
         tellOtherwise(x);
@@ -329,7 +311,7 @@ final class EdgesOfWorldTest {
         GiantHeart y = Scene.withoutKept();
         y.keep();
         tellOtherwise(y);
-        List<Long> second = shown(y);
+        List<Long> second = Scene.world(y);
         Check.due("in place of the one before", y.keep(), 8);
         y.place(6, 0, -1, -1);
         y.seed(3);
@@ -340,7 +322,7 @@ final class EdgesOfWorldTest {
     /** 27, 28: nothing told is kept, too, so a PLACE can be not told again; what is not named is not kept. */
     private static void keptEmpty() {
         GiantHeart x = new GiantHeart();
-        List<Long> empty = shown(x);
+        List<Long> empty = Scene.world(x);
         Check.due("no PLACES", x.keep(), 0);
         for (int p = 0; p < 8; p++) {
             x.place(p, 0, -1, 0);

@@ -178,6 +178,19 @@ final class RefusedTest {
             stays("hidden " + no, -1, x -> x.hidden(no, 10));
             stays("hidden " + no, -1, x -> x.hidden(no, 11));
         }
+        for (int k = 0; k < 8; k++) {
+            for (int where : new int[] {-1, 8, 9, 10}) {
+                int one = k;
+                int other = k == 3 ? 4 : 3;
+                Supplier<GiantHeart> scene = () -> {
+                    GiantHeart x = eightKeys();
+                    x.key(one, where);
+                    return x;
+                };
+                stays("hidden, " + k + " at " + where, scene, -1, x -> x.hidden(1 << one | 1 << other, 10));
+                stays("hidden, " + k + " at " + where, scene, -1, x -> x.hidden(1 << one | 1 << other, other));
+            }
+        }
         for (int what : new int[] {-1, 2, 6, 8, 9, 12, 32, MIN, MAX}) {
             stays("hidden what " + what, -1, x -> x.hidden(131, what));
         }

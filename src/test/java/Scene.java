@@ -78,7 +78,9 @@ final class Scene {
         x.way(0, 1, 2);
         for (int p = 1; p < 8; p++) {
             x.place(p, p % 4, -1, p - 1);
-            x.key(p, 8 - p);
+        }
+        for (int k = 1; k < 8; k++) {
+            x.key(k, 8 - k);
         }
         Check.feed(x, LAW);
         return x;
@@ -107,8 +109,10 @@ final class Scene {
         return x;
     }
 
-    private static void world(GiantHeart x, List<Long> all) {
-        for (int what = 0; what < 9; what++) {
+    /** What is KEPT: ISLANDS, PLACES, KEYS, THE HEART, THE NIGHT, DUSTED, SAID, X. */
+    static List<Long> world(GiantHeart x) {
+        List<Long> all = new ArrayList<>();
+        for (int what : new int[] {0, 1, 4, 5, 6, 7}) {
             all.add((long) x.count(what));
         }
         for (int k = 0; k < 8; k++) {
@@ -122,12 +126,15 @@ final class Scene {
                 all.add((long) x.placeIs(p, what));
             }
         }
+        return all;
     }
 
     /** All that the object shows: two that were used alike show the same. The object is spent behind it. */
     static List<Long> picture(GiantHeart x) {
-        List<Long> all = new ArrayList<>();
-        world(x, all);
+        List<Long> all = world(x);
+        all.add((long) x.count(2));
+        all.add((long) x.count(3));
+        all.add((long) x.count(8));
         all.add((long) x.soonest(0));
         all.add((long) x.soonest(1));
         all.add((long) x.plan(-1));
@@ -150,7 +157,7 @@ final class Scene {
         all.add((long) x.law(x.count(3) < 20 ? 0 : x.count(3) < 40 ? 8 : LAW.length()));
         nights(x, all);
         all.add(x.undo() ? 1L : 0L);
-        world(x, all);
+        all.addAll(world(x));
         return all;
     }
 

@@ -270,6 +270,11 @@ final class SeekerTest {
         Check.due("four: 1", y.hidden(15, 1), 1);
         Check.due("four: 2", y.hidden(15, 2), 3);
         Check.due("four: 3", y.hidden(15, 3), 2);
+        Check.due("four, and it is so", y.hidden(15, 11), 6);
+        int[] so = {2, 0, 3, 1};
+        for (int k = 0; k < 4; k++) {
+            Check.due("four: " + k + " is there", y.count(10 + k), so[k]);
+        }
         y.key(3, -1);
         Check.due("never by any", y.hidden(7, 10), -2);
         Check.due("never by any", y.hidden(7, 0), -2);
