@@ -62,21 +62,36 @@ final class EdgesOfTextsTest {
         }
     }
 
-    /** Which of all 256 bytes can stand at the place of the sign # in the text; the others are FAULT 1 there. */
-    private static void stands(int kind, String text, String signs, String faulty, long... otherFault) {
+    private static long withSign(int kind, String text, int sign) {
+        String whole = text.replace('#', (char) sign);
+        return read(oneOf(kind), kind, whole, whole.length());
+    }
+
+    /** Of all 256 bytes: with the signs in place of the # the text is right; the others can't stand there. */
+    private static void stands(int kind, String text, String signs) {
+        stands(kind, text, signs, "", 0);
+    }
+
+    /** As above, but with some others the text has a FAULT that is not this one. */
+    private static void stands(int kind, String text, String signs, String others, int fault) {
         int at = text.indexOf('#');
         for (int sign = 0; sign < 256; sign++) {
-            GiantHeart x = oneOf(kind);
-            String whole = text.substring(0, at) + (char) sign + text.substring(at + 1);
-            long answer = read(x, kind, whole, whole.length());
+            long answer = withSign(kind, text, sign);
             String name = "byte " + sign + " in " + text;
             if (signs.indexOf(sign) >= 0) {
                 Check.due(name + " can stand", answer > -1000, true);
-            } else if (faulty.indexOf(sign) >= 0) {
-                Check.due(name + " is another fault", answer, otherFault[0]);
             } else {
-                Check.due(name + " can't stand", answer, -1000 - at);
+                Check.due(name + " can't stand", answer, others.indexOf(sign) >= 0 ? fault : -1000 - at);
             }
+        }
+    }
+
+    /** As above, but the text can go on behind the signs, and has a FAULT further on. */
+    private static void goesOn(int kind, String text, String signs) {
+        int at = text.indexOf('#');
+        for (int sign = 0; sign < 256; sign++) {
+            boolean isWrong = withSign(kind, text, sign) == -1000 - at;
+            Check.due("byte " + sign + " can't stand in " + text, isWrong, signs.indexOf(sign) < 0);
         }
     }
 
@@ -145,17 +160,17 @@ final class EdgesOfTextsTest {
         ends(LAW, "m1+n(1=1&!(h<2)|[d]>s);l0(1=1)", 22, 30);
         String factor = "0123456789nhidswkor[";
         String joins = "+-*/%";
-        stands(LAW, "#1(1=1)", "ml", "");
-        stands(LAW, "m1(1=1);#1(1=1)", "ml", "");
+        stands(LAW, "#1(1=1)", "ml");
+        stands(LAW, "m1(1=1);#1(1=1)", "ml");
         stands(LAW, "m#(1=1)", factor.replace("[", ""), "[", -1002);
         stands(LAW, "m[#](1=1)", factor.replace("[", ""), "[", -1003);
-        stands(LAW, "m1#n(1=1)", joins, "(0123456789", -1000);
-        stands(LAW, "mn#(1=1)", "", joins + "(", -1000);
+        goesOn(LAW, "m1#n(1=1)", joins + "(0123456789");
+        goesOn(LAW, "mn#(1=1)", joins + "(");
         stands(LAW, "m1(n#1)", "<>=", joins, -1006);
-        stands(LAW, "m1(#=1)", "0123456789nhidswkor", "[(!", -1000);
+        goesOn(LAW, "m1(#=1)", "0123456789nhidswkor[(!");
         stands(LAW, "m1(1=#)", "0123456789nhidswkor", "[", -1006);
         stands(LAW, "m1(1=n#", ")", joins + "&|", -1007);
-        stands(LAW, "m1(1=1)#m1(1=1)", ";", "");
+        stands(LAW, "m1(1=1)#m1(1=1)", ";");
         stands(LAW, "m1((1=n#", "", joins + "&|)", -1008);
         stands(LAW, "m[n#", "", joins + "]", -1004);
         due(LAW, "m1 (1=1)", -1002);
@@ -163,21 +178,6 @@ final class EdgesOfTextsTest {
         due(LAW, "m1(1=1) ", -1007);
         due(LAW, "m1(1=1)\n", -1007);
         due(LAW, "m1(1 =1)", -1004);
-    }
-
-    private static void stands(int kind, String text, String signs, String faulty, int otherFault) {
-        if (otherFault == -1000) {
-            // those lead to other faults behind: here it is only asked that they are none at this place
-            int at = text.indexOf('#');
-            for (int sign = 0; sign < 256; sign++) {
-                GiantHeart x = oneOf(kind);
-                String whole = text.substring(0, at) + (char) sign + text.substring(at + 1);
-                boolean isWrong = signs.indexOf(sign) < 0 && faulty.indexOf(sign) < 0;
-                Check.due("byte " + sign + " in " + text, read(x, kind, whole, whole.length()) == -1000 - at, isWrong);
-            }
-        } else {
-            stands(kind, text, signs, faulty, (long) otherFault);
-        }
     }
 
     /** 2 a sixth digit, at it; a number of one to five digits. */
@@ -268,15 +268,15 @@ final class EdgesOfTextsTest {
     /** ACTS (32 at most) with a , between two: a letter of g r o w s k and a digit; at most 100 bytes. */
     private static void tales() {
         ends(TALE, "g0,r1,o2,w3,s4,k2", 2, 5, 8, 11, 14, 17);
-        stands(TALE, "#1", "growsk", "");
-        stands(TALE, "o1,#1", "growsk", "");
-        stands(TALE, "o1#o1", ",", "");
-        stands(TALE, "g#", "0123", "456789", -3001L);
-        stands(TALE, "r#", "0123", "456789", -3001L);
-        stands(TALE, "o#", "01234567", "89", -3001L);
-        stands(TALE, "w#", "01234567", "89", -3001L);
-        stands(TALE, "s#", "01234567", "89", -3001L);
-        stands(TALE, "k#", "012", "3456789", -3001L);
+        stands(TALE, "#1", "growsk");
+        stands(TALE, "o1,#1", "growsk");
+        stands(TALE, "o1#o1", ",");
+        stands(TALE, "g#", "0123", "456789", -3001);
+        stands(TALE, "r#", "0123", "456789", -3001);
+        stands(TALE, "o#", "01234567", "89", -3001);
+        stands(TALE, "w#", "01234567", "89", -3001);
+        stands(TALE, "s#", "01234567", "89", -3001);
+        stands(TALE, "k#", "012", "3456789", -3001);
         for (int digit = 0; digit < 10; digit++) {
             // the first from the left: a digit above 3 stands ahead of the x
             due(TALE, "k2,g" + digit + ",x", digit <= 3 ? -1006 : -3004);
@@ -315,13 +315,13 @@ final class EdgesOfTextsTest {
     /** NIGHTS (12 at most) with a , between two: a digit 0 to 7, or a dot; a digit 0 to 7; at most 60 bytes. */
     private static void stories() {
         ends(STORY, ".0,00,70,.0", 2, 5, 8, 11);
-        stands(STORY, "#0", ".01234567", "");
-        stands(STORY, ".0,#0", ".01234567", "");
-        stands(STORY, ".0#.0", ",", "");
+        stands(STORY, "#0", ".01234567");
+        stands(STORY, ".0,#0", ".01234567");
+        stands(STORY, ".0#.0", ",");
         // he says 0, the only one that is told
-        stands(STORY, ".#", "01234567", "");
-        stands(STORY, "0#", "01234567", "");
-        stands(STORY, ".0,7#", "01234567", "");
+        stands(STORY, ".#", "01234567");
+        stands(STORY, "0#", "01234567");
+        stands(STORY, ".0,7#", "01234567");
         String most = ".0,".repeat(11) + "70";
         due(STORY, most, 1);
         due(STORY, most + ",", -1036);
