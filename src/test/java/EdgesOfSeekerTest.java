@@ -446,6 +446,48 @@ final class EdgesOfSeekerTest {
         planIs(x, 1, 20, 0, 3, 21, 0, 2, 22, 23, 24, 25, 36, 50, 27);
     }
 
+    /** What must be OPENED for a KEY, or around a PLACE, has a lower number than that PLACE or a higher one. */
+    private static void lowerAndHigher() {
+        // 0 and 1 want the KEY 7 in 2, all wet: the salmon opens but one
+        GiantHeart x = new GiantHeart();
+        x.place(0, 0, -1, 7);
+        x.place(1, 0, -1, 7);
+        x.place(2, 0, -1, -1);
+        x.more(2, true, -1);
+        x.more(1, true, 2);
+        x.more(0, true, 1);
+        x.key(7, 2);
+        Check.due("the KEY in one that is to be OPENED", x.soonest(0), 3);
+        planIs(x, 22, 20, 21);
+        x.more(1, true, -1);
+        Check.due("the KEY, or the salmon", x.soonest(0), 3);
+        planIs(x, 22, 20, 21);
+        // 1 wants the KEY 6, which is nowhere, so the salmon is for it
+        x.place(1, 0, -1, 6);
+        x.more(1, true, -1);
+        Check.due("the KEY for 0, the salmon for 1", x.soonest(0), 3);
+        planIs(x, 22, 20, 41);
+        Check.due("never without", x.missed(7), -2);
+        // the heart in 2 and 3, within 1, the KEY in 5, which is within 4
+        GiantHeart y = new GiantHeart();
+        y.place(1, 0, -1, -1);
+        y.place(2, 0, 1, 6);
+        y.place(3, 0, 1, 6);
+        y.place(4, 0, -1, -1);
+        y.place(5, 0, 4, -1);
+        y.more(2, false, 3);
+        y.heart(2);
+        y.key(6, 5);
+        Check.due("o1, o4, o5, o2, o3", y.soonest(0), 5);
+        Check.due("OPENED", y.soonest(1), 5);
+        planIs(y, 21, 24, 25, 22, 23);
+        Check.due("the wolf opens but one", y.missed(6), -2);
+        y.more(5, true, -1);
+        Check.due("the salmon opens 5 within 4", y.soonest(0), 4);
+        Check.due("OPENED", y.soonest(1), 4);
+        planIs(y, 21, 32, 45, 23);
+    }
+
     /** SOONEST: of ways with the fewest DAYS also the fewest PLACES that are OPENED. */
     private static void soonest() {
         // in 3 DAYS by way of the KEY (two OPENED) or over two ISLANDS (one OPENED)
@@ -603,6 +645,7 @@ final class EdgesOfSeekerTest {
         plans();
         plansBack();
         overTheFirst();
+        lowerAndHigher();
         soonest();
         missed();
         hidden();
