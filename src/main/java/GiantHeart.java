@@ -1348,7 +1348,8 @@ public final class GiantHeart {
         /** More than the ACTS or PLACES of any way, so that DAYS always count first. */
         private static final int DAY = 1024;
         private static final int NEVER = 1 << 27;
-        private static final int MOST_ACTS = 64;
+        /** No wood needs more than 32 (NOTES.md); so deep, too, goes follow(). */
+        private static final int MOST_ACTS = 40;
 
         private final Seeker seeker;
         private final int[] far = new int[STATES];

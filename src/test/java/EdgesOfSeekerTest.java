@@ -488,6 +488,34 @@ final class EdgesOfSeekerTest {
         planIs(y, 21, 32, 45, 23);
     }
 
+    /** THE PLAN is a TALE, so no wood needs more than 32 ACTS: one that needs 30, to and fro between far ISLANDS. */
+    private static void longPlan() {
+        GiantHeart x = new GiantHeart();
+        x.way(0, 1, 2);
+        x.way(1, 3, 2);
+        x.way(3, 2, 5);
+        x.place(0, 2, -1, 1);
+        x.place(1, 2, -1, 4);
+        x.place(2, 0, -1, 0);
+        x.place(3, 2, -1, 6);
+        x.place(4, 0, -1, 3);
+        x.place(5, 2, 0, 0);
+        x.place(6, 0, -1, 7);
+        x.place(7, 2, 3, 5);
+        for (int p = 0; p < 7; p++) {
+            x.more(p, false, p + 1);
+        }
+        int[] where = {5, 8, -1, 3, 6, 4, 2, 7};
+        for (int k = 0; k < 8; k++) {
+            x.key(k, where[k]);
+        }
+        planIs(x, 1, 3, 2, 50, 20, 35, 3, 1, 0, 22, 1, 3, 2, 23, 3, 1, 0, 24, 1, 3, 2, 27, 3, 1, 0, 26, 1, 3, 2, 21);
+        Check.due("seven times 9 DAYS, and 8", x.soonest(0), 71);
+        Check.due("all", x.soonest(1), 8);
+        judged(x, "g1,g3,g2,k0,o0,w5,g3,g1,g0,o2,g1,g3,g2,o3,g3,g1,g0,o4,g1,g3,g2,o7,g3,g1,g0,o6,g1,g3,g2,o1",
+            30, 71, 255, 251, 2, 1);
+    }
+
     /** SOONEST: of ways with the fewest DAYS also the fewest PLACES that are OPENED. */
     private static void soonest() {
         // in 3 DAYS by way of the KEY (two OPENED) or over two ISLANDS (one OPENED)
@@ -646,6 +674,7 @@ final class EdgesOfSeekerTest {
         plansBack();
         overTheFirst();
         lowerAndHigher();
+        longPlan();
         soonest();
         missed();
         hidden();
